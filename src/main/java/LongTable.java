@@ -1430,6 +1430,8 @@ public final class LongTable {
         private final int[] place;
         private final int[] digit;
         private int places;
+        /** SIGN by SIGN the votes of the last VOTER that are REPLIES, by bits. */
+        private final int[] noted;
 
         Replies(Rows over, Matter first) {
             rows = over;
@@ -1448,6 +1450,7 @@ public final class LongTable {
             settledLost = NONE;
             place = new int[MOST_PLACES];
             digit = new int[MOST_PLACES];
+            noted = new int[SIDE];
         }
 
         /** PARTS by TRUTH of the CASES in which the VOTER's voice TURNS it. */
@@ -1591,8 +1594,13 @@ public final class LongTable {
             int tables = layPlaces();
             int fits = 0;
             long least = 0;
+            boolean anew = true;
             for (int i = 0; i < tables; i++) {
-                if (isFit(matter, trial)) {
+                // The last VOTER's REPLIES hang on the others' votes alone, which seldom change here.
+                if (anew) {
+                    noteReplies(matter.voters - 1);
+                }
+                if (areNoted(matter.voters - 1) && isFit(matter, trial)) {
                     countTrial(matter);
                     long lost = matter.common.lostBy(comes);
                     if (fits == 0 || lost < least) {
@@ -1601,7 +1609,7 @@ public final class LongTable {
                     }
                     fits++;
                 }
-                nextTable();
+                anew = nextTable();
             }
             return fits;
         }
@@ -1622,13 +1630,40 @@ public final class LongTable {
             return Math.min(tables, MOST_TABLES);
         }
 
-        private void nextTable() {
+        /** The next table of votes as the trial; whether it changes any but the last VOTER's. */
+        private boolean nextTable() {
             boolean carries = true;
+            boolean anew = false;
             for (int p = places - 1; p >= 0 && carries; p--) {
                 carries = digit[p] >= matter.truths;
                 digit[p] = carries ? 0 : digit[p] + 1;
                 trial[place[p]] = voteAt(digit[p]);
+                anew = place[p] < (matter.voters - 1) * SIDE;
             }
+            return anew;
+        }
+
+        private void noteReplies(int v) {
+            hearOthers(matter, trial, v);
+            for (int s = 0; s < matter.voter[v].signs; s++) {
+                noted[s] = 0;
+                for (int x = 0; x <= matter.truths; x++) {
+                    if (best(v, s, voteAt(x)) == voteAt(x)) {
+                        noted[s] |= 1 << x;
+                    }
+                }
+            }
+        }
+
+        private boolean areNoted(int v) {
+            for (int s = 0; s < matter.voter[v].signs; s++) {
+                int vote = trial[v * SIDE + s];
+                int x = matter.hasTruth(vote) ? vote : matter.truths;
+                if ((noted[s] >> x & 1) == 0) {
+                    return false;
+                }
+            }
+            return true;
         }
     }
 
