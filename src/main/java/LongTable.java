@@ -6,6 +6,8 @@ public final class LongTable {
 
     private static final int NO_VOTE = 9;
     private static final int MOST_VOTERS = 7;
+    /** For so many at most all orders, all WEIGHTS are tried. */
+    private static final int FEW_VOTERS = 5;
     /** Three TRUTHS and three SIGNS at most: the side of every flat table. */
     private static final int SIDE = 3;
     /** Chances are told in twentieths. */
@@ -58,6 +60,7 @@ public final class LongTable {
         Matter draft = spareMatter();
         int answer = reader.read(draft);
         if (answer >= 0) {
+            draft.finish();
             matter = draft;
         }
         tape.clear();
@@ -237,7 +240,7 @@ public final class LongTable {
     }
 
     public int bestOrder() {
-        if (matter.isEmpty() || matter.voters > Rules.MOST_WEIGHED) {
+        if (matter.isEmpty() || matter.voters > FEW_VOTERS) {
             return NONE;
         }
         return trial.tryOrders(matter);
@@ -332,7 +335,7 @@ public final class LongTable {
     }
 
     public long weighed() {
-        if (matter.isEmpty() || matter.voters > Rules.MOST_WEIGHED) {
+        if (matter.isEmpty() || matter.voters > FEW_VOTERS) {
             return NONE;
         }
         return rules.weighAll(matter);
@@ -861,11 +864,7 @@ public final class LongTable {
             if (fault == 0 && (matter.isEmpty() || tape.length > MOST_BYTES)) {
                 fail(1);
             }
-            if (fault != 0) {
-                return -1 - place;
-            }
-            matter.finish();
-            return lines;
+            return fault == 0 ? lines : -1 - place;
         }
 
         private boolean fail(int what) {
@@ -914,19 +913,12 @@ public final class LongTable {
             kind = WRONG;
             if (digits == 0 && letters >= 1 && letters <= MOST_LETTERS) {
                 kind = WORD;
-                keyword = keywordOf(word);
+                for (int i = 0; i < KEYWORDS.length; i++) {
+                    keyword = KEYWORDS[i] == word ? i : keyword;
+                }
             } else if (letters == 0 && digits >= 1 && digits <= MOST_DIGITS) {
                 kind = NUMBER;
             }
-        }
-
-        private static int keywordOf(long word) {
-            for (int i = 0; i < KEYWORDS.length; i++) {
-                if (KEYWORDS[i] == word) {
-                    return i;
-                }
-            }
-            return NONE;
         }
 
         private static boolean isBlank(int sign) {
@@ -955,7 +947,8 @@ public final class LongTable {
                 case WEIGHT:
                     return readWeight();
                 default:
-                    return readRule();
+                    next();
+                    return keyword == NEED ? readNeed() : readMost();
             }
         }
 
@@ -1045,26 +1038,26 @@ public final class LongTable {
             switch (keyword) {
                 case HONEST:
                     one.way = Voter.HONEST;
-                    return stop();
+                    break;
                 case PLAIN:
                     one.way = Voter.PLAIN;
-                    return stop();
+                    break;
                 case SHY:
                     one.way = Voter.SHY;
-                    return readShyness(one);
+                    if (!someNumber(1, WHOLE)) {
+                        return false;
+                    }
+                    one.shyness = number;
+                    break;
                 case SET:
                     one.way = Voter.SET;
-                    return readSet(one);
+                    if (!readSet(one)) {
+                        return false;
+                    }
+                    break;
                 default:
                     return fail(1);
             }
-        }
-
-        private boolean readShyness(Voter one) {
-            if (!someNumber(1, WHOLE)) {
-                return false;
-            }
-            one.shyness = number;
             return stop();
         }
 
@@ -1079,7 +1072,7 @@ public final class LongTable {
                     return false;
                 }
             }
-            return stop();
+            return true;
         }
 
         private boolean readWeight() {
@@ -1090,11 +1083,7 @@ public final class LongTable {
             return stop();
         }
 
-        private boolean readRule() {
-            next();
-            if (keyword == NEED) {
-                return readNeed();
-            }
+        private boolean readMost() {
             if (keyword != MOST) {
                 return fail(1);
             }
@@ -1363,7 +1352,7 @@ public final class LongTable {
 
         private void takeTally() {
             for (int t = 0; t < SIDE; t++) {
-                tally[t] = weightNow(t);
+                tally[t] = weights[matter.voters * SIDE + t];
             }
         }
 
@@ -1669,7 +1658,7 @@ public final class LongTable {
 
     /** Speaking in turns and following one another. */
     private static final class Turns {
-        /** Of five VOTERS. */
+        /** Those of FEW_VOTERS. */
         private static final int MOST_ORDERS = 120;
 
         Matter matter;
@@ -1895,7 +1884,6 @@ public final class LongTable {
 
     /** Rules of the sort 'need k t else u', tried one after another. */
     private static final class Rules {
-        static final int MOST_WEIGHED = 5;
         static final int ANSWERS = 8;
         private static final int MOST_NEED = 82;
         /** Seven VOTERS with WEIGHTS of nine, and 0. */
@@ -1926,7 +1914,7 @@ public final class LongTable {
             byVoters = new long[SIDE * MASKS * SIDE];
             sums = new int[MASKS];
             above = new long[SIDE * SUMS * SIDE];
-            weights = new int[MOST_WEIGHED];
+            weights = new int[FEW_VOTERS];
             weighed = new int[ANSWERS];
             for (int i = 0; i < ANSWERS; i++) {
                 weighed[i] = NONE;
@@ -1998,7 +1986,7 @@ public final class LongTable {
 
         /** The WEIGHTS of a table by its number, the first VOTER's the slowest to change. */
         private void takeWeights(int table, int voters) {
-            for (int v = 0; v < voters && v < MOST_WEIGHED; v++) {
+            for (int v = 0; v < voters && v < FEW_VOTERS; v++) {
                 weights[v] = table >> 2 * (voters - 1 - v) & 3;
                 for (int mask = 1 << v; mask < 2 << v; mask++) {
                     sums[mask] = sums[mask - (1 << v)] + weights[v];
@@ -2043,7 +2031,7 @@ public final class LongTable {
         }
 
         private void keepNeed(int voters, int k, int t, int u) {
-            for (int v = 0; v < MOST_WEIGHED; v++) {
+            for (int v = 0; v < FEW_VOTERS; v++) {
                 weighed[v] = v < voters ? weights[v] : NONE;
             }
             weighed[5] = k;
