@@ -92,7 +92,31 @@ public final class FaultTest {
         fault(SEEN + "loss a b 1", SEEN.length() + 10, 1);
         fault(SEEN + (char) 233, SEEN.length(), 1);
         fault("truth a 5;truth b 5;none", 20, 1);
+        String[] opening = {"truth", "voter", "loss", "way", "weight", "rule"};
+        String[] others = {"sees", "honest", "plain", "shy", "set", "none", "most", "chair", "need", "else"};
+        for (String key : others) {
+            fault(SEEN + key + " x", SEEN.length(), 1);
+            noName(key);
+        }
+        for (String key : opening) {
+            noName(key);
+        }
         fault("truth a 5;.", 10, 1);
+    }
+
+    /** A keyword is no NAME, wherever one is due. */
+    private static void noName(String key) {
+        fault("truth " + key + " 5;", 6, 1);
+        for (String ahead : new String[] {"voter ", "loss ", "loss a ", "loss x a ", "way ", "weight ",
+            "rule most chair ", "rule need 1 ", "rule need 1 a else "}) {
+            fault(SEEN + ahead + key, SEEN.length() + ahead.length(), 1);
+        }
+        if (!key.equals("none")) {
+            fault(SEEN + "way x set a " + key, SEEN.length() + 12, 1);
+        }
+        if (!key.equals("honest") && !key.equals("plain") && !key.equals("shy") && !key.equals("set")) {
+            fault(SEEN + "way x " + key, SEEN.length() + 6, 1);
+        }
     }
 
     private static void refusesNumbers() {

@@ -9,6 +9,7 @@ public final class TurnsTest {
         ownLosses();
         staysWithItsMatter();
         notAsTold();
+        seven();
         bestOrder();
         CHECK.end("TurnsTest");
     }
@@ -102,7 +103,10 @@ public final class TurnsTest {
         CHECK.due("inTurns()", inTurns(x, 1, 0), 0);
         for (int i = 0; i < 4; i++) {
             Check.matter(x, i % 2 == 0 ? Examples.THREE : Examples.ONE);
-            Check.matter(x, "truth a 19;");
+            long lost = x.lost();
+            Check.matter(x, "truth a 19;truth b 1;voter q sees 2 0 20 20 0;weight q 10;");
+            CHECK.due("lost() behind a FAULT", x.lost(), lost);
+            CHECK.due("count(1) behind a FAULT", x.count(1), i % 2 == 0 ? 3 : 1);
             say(x, 10, -1, 0, 0);
             say(x, 1, -1, 1, 2);
             Check.tape(x, 0, 0, 0);
@@ -140,6 +144,23 @@ public final class TurnsTest {
             say(x, -1, -1, signs);
         }
         say(x, 111, 2, 1, 1, 0);
+    }
+
+    private static void seven() {
+        // Two 'yes' more than 'no', or one at first: from then on all FOLLOW.
+        StringBuilder text = new StringBuilder("truth yes 10;truth no 10;");
+        for (char v = 'm'; v < 't'; v++) {
+            text.append("voter ").append(v).append(" sees 2 15 5 5 15;");
+        }
+        LongTable x = Check.with(text.toString());
+        Oracle.Talk talk = new Oracle(text.toString()).new Talk(new int[] {6, 5, 4, 3, 2, 1, 0});
+        CHECK.due("inTurns()", inTurns(x, 6, 5, 4, 3, 2, 1, 0), x.all() - x.herd(2));
+        CHECK.due("herd(0)", x.herd(0), talk.herd(false));
+        CHECK.due("herd(1)", x.herd(1), talk.herd(true));
+        say(x, 0, 1, 1, 1, 1, 1, 1, 1, 0);
+        say(x, 1111111, 2, 0, 0, 0, 0, 0, 1, 1);
+        say(x, 1000000, 3, 1, 1, 1, 1, 0, 0, 1);
+        say(x, 1010101, -1, 1, 0, 1, 0, 1, 0, 1);
     }
 
     private static void bestOrder() {
