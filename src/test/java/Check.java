@@ -47,13 +47,13 @@ final class Check {
         }
     }
 
-    /** The tape has just these bytes behind this. */
+    /** The tape has just these bytes behind this; those that are cut off behind them are all 255. */
     static void tape(LongTable x, int... bytes) {
         x.end(0);
         for (int i = 0; i < bytes.length; i += 20) {
             int[] five = new int[5];
             for (int j = 0; j < 20; j++) {
-                int b = i + j < bytes.length ? bytes[i + j] : 0;
+                int b = i + j < bytes.length ? bytes[i + j] : 255;
                 five[j / 4] = five[j / 4] << 8 | b & 255;
             }
             x.feed(five[0], five[1], five[2], five[3], five[4]);
@@ -74,12 +74,17 @@ final class Check {
         return x.matter();
     }
 
-    static LongTable with(String text) {
-        LongTable x = new LongTable();
+    /** Tells a MATTER that is to have no FAULT. */
+    static void tell(LongTable x, String text) {
         int lines = matter(x, text);
         if (lines < 0) {
             throw new IllegalStateException("a FAULT at " + (-1 - lines) + " in: " + text);
         }
+    }
+
+    static LongTable with(String text) {
+        LongTable x = new LongTable();
+        tell(x, text);
         return x;
     }
 }

@@ -344,7 +344,7 @@ final class FaultEdges {
             LongTable x = new LongTable();
             for (String text : new String[] {"truth", "truth a 0;", "truth a 1;truth a 19;", "voter"}) {
                 Check.matter(x, text);
-                Check.matter(x, SEEN);
+                Check.tell(x, SEEN);
                 e.due("fault()", x.fault(), 0);
             }
         });

@@ -47,6 +47,15 @@ final class FitsEdges {
             0, 0, 0, 0, 0, 0));
         e.edge("6 SIGNS of two VOTERS and three TRUTHS: all 4096", () -> fits(e, SIX_SIGNS + ALWAYS_A, 4096,
             0, 0, 0, 0, 0, 0));
+        // With the SIGN of a: no b, or one b too many for either alone; with the SIGN of b: a b at least.
+        e.edge("of two who can each make it b: 5 times 5", () -> fits(e,
+            Examples.alike(EVEN, 2, "2 20 0 0 20") + "rule need 1 b else a;", 25, 0, 0, 0, 1));
+        e.edge("of three who can each make it b: 15 times 19", () -> fits(e,
+            Examples.alike(EVEN, 3, "2 20 0 0 20") + "rule need 1 b else a;", 285, 0, 0, 0, 0, 0, 1));
+        // With the SIGN of a: an a, or none at all; of b: those that decide b, and a twice, which one alone cannot mend; of c:
+        // c and c or none, and a or b twice, or one of each.
+        e.edge("of two who see which of three TRUTHS it is: 8 times 6 times 7", () -> fits(e, SIX_SIGNS, 336,
+            0, 1, 2, 0, 1, 2));
         e.edge("a TRUTH ahead of none that is as good", () -> fits(e, Examples.PLAIN_SIGHT, 2, 0, 1, 2));
         // By own LOSSES, all 0, any table is FIT.
         e.edge("the best by COMMON LOSSES, not the first", () -> fits(e, EVEN + "voter x sees 2 20 0 0 20;loss x a b 0;"
@@ -54,6 +63,24 @@ final class FitsEdges {
         e.edge("of like ones the first: what is never seen", () -> fits(e,
             "truth a 1;truth b 19;voter x sees 3 10 10 0 10 10 0;way x set b b none;", 3, 1, 1, 0));
         e.edge("the votes told have no part in it", () -> fits(e, Examples.ONE + "way x set none a;", 1, 1, 1));
+        e.edge("what was settled has no part in it", () -> {
+            LongTable x = Check.with(SIX_SIGNS + ALWAYS_A + "way p set c c c;way q set none none none;");
+            x.settle();
+            e.due("fits()", x.fits(), 4096);
+            for (int v = 0; v < 2; v++) {
+                for (int s = 0; s < 3; s++) {
+                    e.due("fitAt(" + v + ", " + s + ")", x.fitAt(v, s), 0);
+                }
+            }
+            e.due("fits() again", x.fits(), 4096);
+        });
+        e.edge("of all VOTERS now, not of more who were", () -> {
+            LongTable x = new LongTable();
+            for (int i = 0; i < 6; i++) {
+                Check.tell(x, i % 4 < 2 ? Examples.alike(EVEN, 7, "3 20 0 0 0 0 20") : Examples.ONE + ALWAYS_A);
+                e.due("fits()", x.fits(), i % 4 < 2 ? -1 : 9);
+            }
+        });
         e.edge("none alone is FIT", () -> {
             // y, who sees nothing and weighs more, may but be silent, where x says b; or both say nothing but a or b.
             LongTable x = Check.with(EVEN + "voter x sees 2 20 0 0 20;voter y sees 2 10 10 10 10;weight y 3;");
@@ -81,7 +108,7 @@ final class FitsEdges {
         e.edge("stays behind one that is NONE", () -> {
             LongTable x = Check.with(Examples.PLAIN_SIGHT);
             x.fits();
-            Check.matter(x, SEVEN_SIGNS);
+            Check.tell(x, SEVEN_SIGNS);
             e.due("fits()", x.fits(), -1);
             for (int s = 0; s < 3; s++) {
                 e.due("fitAt(0, " + s + ")", x.fitAt(0, s), s);
@@ -91,7 +118,7 @@ final class FitsEdges {
         e.edge("stays behind another MATTER, a FAULT and a settle()", () -> {
             LongTable x = Check.with(Examples.PLAIN_SIGHT);
             x.fits();
-            Check.matter(x, Examples.ONE);
+            Check.tell(x, Examples.ONE);
             Check.matter(x, "?");
             x.settle();
             e.due("fitAt(0, 0)", x.fitAt(0, 0), 0);
@@ -100,7 +127,7 @@ final class FitsEdges {
         e.edge("the latest of two", () -> {
             LongTable x = Check.with(SIX_SIGNS + ALWAYS_A);
             x.fits();
-            Check.matter(x, Examples.ONE);
+            Check.tell(x, Examples.ONE);
             x.fits();
             e.due("fitAt(0, 0)", x.fitAt(0, 0), 1);
             e.due("fitAt(0, 2)", x.fitAt(0, 2), -1);
@@ -124,8 +151,13 @@ final class FitsEdges {
             e.due("fitAt(0, 2)", x.fitAt(0, 2), -1);
         });
         e.edge("ahead of any", () -> {
-            e.due("fitAt(0, 0)", new LongTable().fitAt(0, 0), -1);
-            e.due("fitAt(0, 0) of a MATTER", Check.with(Examples.ONE).fitAt(0, 0), -1);
+            LongTable x = Check.with(SIX_SIGNS);
+            for (int v = 0; v < 7; v++) {
+                for (int s = 0; s < 3; s++) {
+                    e.due("fitAt(" + v + ", " + s + ")", new LongTable().fitAt(v, s), -1);
+                    e.due("fitAt(" + v + ", " + s + ") of a MATTER", x.fitAt(v, s), -1);
+                }
+            }
         });
         e.edge("ahead of any that told one, though settled", () -> {
             LongTable x = Check.with(SEVEN_SIGNS);

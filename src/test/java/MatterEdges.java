@@ -99,7 +99,7 @@ final class MatterEdges {
         e.edge("without a MATTER", () -> e.due("signs(0)", new LongTable().signs(0), -1));
         e.edge("a VOTER of the MATTER before", () -> {
             LongTable x = Check.with(Examples.THREE);
-            Check.matter(x, Examples.ONE);
+            Check.tell(x, Examples.ONE);
             e.due("signs(1)", x.signs(1), -1);
         });
     }
@@ -228,7 +228,7 @@ final class MatterEdges {
         e.edge("without a MATTER", () -> e.due("vote(0, 0)", new LongTable().vote(0, 0), -1));
         e.edge("a third SIGN of the MATTER before", () -> {
             LongTable x = Check.with(Examples.PLAIN_SIGHT);
-            Check.matter(x, Examples.ONE);
+            Check.tell(x, Examples.ONE);
             e.due("vote(0, 2)", x.vote(0, 2), -1);
         });
     }
@@ -296,6 +296,12 @@ final class MatterEdges {
             e.due("vote(0, 0) of shy 9", Check.with(Examples.ONE + "loss x a b 2;way x shy 9;").vote(0, 0), 0);
             e.due("vote(0, 0) of shy 10", Check.with(Examples.ONE + "loss x a b 2;way x shy 10;").vote(0, 0), 9);
         });
+        // 4, 6 and 10 twentieths.
+        e.edge("of the PARTS of three TRUTHS", () -> {
+            String text = "truth a 4;truth b 6;truth c 10;voter x sees 2 10 10 10 10 10 10;way x shy ";
+            e.due("vote(0, 0) of shy 10", Check.with(text + "10;").vote(0, 0), 2);
+            e.due("vote(0, 0) of shy 11", Check.with(text + "11;").vote(0, 0), 9);
+        });
         e.edge("with no CASE 0, of which 0 are k twentieths", () -> e.due("vote(0, 2)", Check.with(
             NO_CASE + "way x shy 20;").vote(0, 2), 0));
     }
@@ -352,6 +358,8 @@ final class MatterEdges {
         e.edge("one more", () -> decides(e, open(3), 2, 0, 2, 2));
         e.edge("WEIGHTS, not votes", () -> decides(e, open(3) + "weight p 3;", 0, 0, 2, 2));
         e.edge("of two like ones the least", () -> decides(e, open(2), 1, 2, 1));
+        e.edge("of two like ones the least, though there was a chair", () -> decides(e,
+            open(2) + "rule most chair p;rule most;", 1, 2, 1));
         e.edge("of three like ones the least", () -> decides(e, open(3), 0, 2, 1, 0));
         e.edge("of two like WEIGHTS the least", () -> decides(e, open(3) + "weight p 2;", 1, 2, 1, 1));
         e.edge("of none with a vote the least", () -> decides(e, open(1) + "way p set none none none;", 0, 2));

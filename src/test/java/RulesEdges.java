@@ -119,15 +119,17 @@ final class RulesEdges {
         e.edge("stays behind another MATTER and a FAULT", () -> {
             LongTable x = Check.with(Examples.THREE);
             x.bar(0, 1);
-            Check.matter(x, Examples.ONE);
+            Check.tell(x, Examples.ONE);
             Check.matter(x, "?");
             e.due("barLost()", x.barLost(), 25000);
         });
         e.edge("the latest of two, though more", () -> {
             LongTable x = Check.with(SEVEN_NINES);
-            x.bar(0, 1);
-            x.bar(1, 0);
+            e.due("bar(0, 1)", x.bar(0, 1), 64);
+            e.due("bar(1, 0)", x.bar(1, 0), 1);
             e.due("barLost()", x.barLost(), 19 * 1280000000L);
+            e.due("bar(0, 1) again", x.bar(0, 1), 64);
+            e.due("barLost() again", x.barLost(), 1280000000L);
         });
         e.says(31, "NONE ahead of any.");
         e.edge("ahead of any", () -> {
@@ -180,6 +182,9 @@ final class RulesEdges {
             Examples.KNOWER + "weight x 3;").helps(0, 1), 0));
         e.edge("just as much where w's are none", () -> e.due("helps(0, 1)", Check.with(
             Examples.KNOWER + "rule need 2 b else a;").helps(0, 1), 1));
+        e.edge("just as much where w's are none, though w's alone would lose more", () -> e.due("helps(0, 1)", Check.with(
+            "truth a 18;truth b 2;voter v sees 2 10 10 10 10;voter w sees 2 10 10 10 10;way v set a a;way w set b b;")
+            .helps(0, 1), 1));
         e.edge("more where w's are none", () -> {
             // v says b each time and w a: together they let z, who knows, decide, alone each outweighs z.
             LongTable x = Check.with(EVEN + "voter v sees 2 10 10 10 10;voter w sees 2 10 10 10 10;voter z sees 2 20 0 0 20;"
@@ -249,11 +254,20 @@ final class RulesEdges {
 
     private static void weighedAt(Edges e) {
         e.says(40, "By the latest weighed() that was not NONE: the WEIGHT of VOTER i (0 to 4), 5 k, 6 t, 7 u");
+        e.edge("the same again", () -> {
+            LongTable x = Check.with(EXPERT);
+            long lost = x.knows(0);
+            for (int i = 0; i < 3; i++) {
+                e.due("weighed()", x.weighed(), lost);
+                e.due("weighedAt(0)", x.weighedAt(0), 3);
+                e.due("weighedAt(5)", x.weighedAt(5), 4);
+            }
+        });
         e.edge("each of the eight", () -> weighed(e, EXPERT, Check.with(EXPERT).knows(0), 3, 1, 1, 1, 1, 4, 0, 1));
         e.edge("stay behind one that is NONE", () -> {
             LongTable x = Check.with(EXPERT);
             x.weighed();
-            Check.matter(x, Examples.alike(EVEN, 6, "2 20 0 0 20"));
+            Check.tell(x, Examples.alike(EVEN, 6, "2 20 0 0 20"));
             e.due("weighed()", x.weighed(), -1);
             int[] want = {3, 1, 1, 1, 1, 4, 0, 1};
             for (int i = 0; i < want.length; i++) {
@@ -263,7 +277,7 @@ final class RulesEdges {
         e.edge("stay behind another MATTER and a FAULT", () -> {
             LongTable x = Check.with(EXPERT);
             x.weighed();
-            Check.matter(x, Examples.ONE);
+            Check.tell(x, Examples.ONE);
             Check.matter(x, "?");
             e.due("weighedAt(0)", x.weighedAt(0), 3);
             e.due("weighedAt(4)", x.weighedAt(4), 1);
@@ -271,7 +285,7 @@ final class RulesEdges {
         e.edge("the latest of two", () -> {
             LongTable x = Check.with(EXPERT);
             x.weighed();
-            Check.matter(x, Examples.ONE);
+            Check.tell(x, Examples.ONE);
             x.weighed();
             int[] want = {0, -1, -1, -1, -1, 1, 0, 1};
             for (int i = 0; i < want.length; i++) {

@@ -336,12 +336,30 @@ final class TextEdges {
             e.due("decided()", x.decided(), 0);
         });
         e.edge("anew with each MATTER", () -> {
-            LongTable x = Check.with(Examples.ONE + "loss a b 9;loss x b a 9;way x set a a;weight x 0;rule need 1 a else a;");
-            Check.matter(x, Examples.ONE);
-            e.due("lost()", x.lost(), 100);
-            e.due("vote(0, 0)", x.vote(0, 0), 1);
-            Check.matter(x, Examples.ONE + "rule need 1 b else a;");
-            e.due("right()", x.right(), 300);
+            LongTable x = new LongTable();
+            String told = "loss a b 9;loss x b a 9;way x set a a;weight x 0;";
+            String[] others = {Examples.ONE + told + "rule need 1 a else a;", Examples.ONE + told + "rule most chair x;",
+                Examples.PLAIN_SIGHT + "loss a b 9;loss a c 7;loss x b a 9;way x set a a a;weight x 0;rule need 1 c else c;"};
+            // Twice each, as it is free where the MATTER is held.
+            for (String other : others) {
+                for (int i = 0; i < 4; i++) {
+                    Check.tell(x, i < 2 ? other : Examples.ONE);
+                    if (i >= 2) {
+                        e.due("lost()", x.lost(), 100);
+                        e.due("vote(0, 0)", x.vote(0, 0), 1);
+                    }
+                }
+                Check.tell(x, Examples.ONE + "rule need 1 b else a;");
+                e.due("right()", x.right(), 300);
+            }
+        });
+        e.edge("no chair anew with each MATTER", () -> {
+            LongTable x = new LongTable();
+            String two = Examples.alike("truth a 10;truth b 10;", 2, "2 20 0 0 20") + "way p set a a;way q set b b;";
+            for (int i = 0; i < 6; i++) {
+                Check.tell(x, two + (i % 4 < 2 ? "rule most chair q;" : ""));
+                e.due("comes(0, 1)", x.comes(0, 1), i % 4 < 2 ? 4000 : 0);
+            }
         });
     }
 
@@ -379,7 +397,7 @@ final class TextEdges {
         e.says(4, "The tape (empty then, with a FAULT, too, here and below) is the MATTER now");
         e.edge("empty behind a MATTER", () -> {
             LongTable x = new LongTable();
-            Check.matter(x, SEEN);
+            Check.tell(x, SEEN);
             e.due("count(2)", x.count(2), 0);
         });
         e.edge("empty behind a FAULT", () -> {
@@ -401,7 +419,7 @@ final class TextEdges {
         });
         e.edge("the one before is no more", () -> {
             LongTable x = Check.with(Examples.PLAIN_SIGHT);
-            Check.matter(x, Examples.THREE);
+            Check.tell(x, Examples.THREE);
             e.due("count(0)", x.count(0), 2);
             e.due("count(1)", x.count(1), 3);
             e.due("signs(0)", x.signs(0), 2);
@@ -433,6 +451,17 @@ final class TextEdges {
             LongTable x = Check.with(Examples.THREE);
             for (int i = 0; i < 5; i++) {
                 e.due("matter()", Check.matter(x, Examples.KNOWER + "rule"), -1 - Examples.KNOWER.length() - 4);
+                e.due("right()", x.right(), 135000);
+            }
+        });
+        e.edge("behind an inTurns() of another MATTER", () -> {
+            LongTable x = Check.with(Examples.KNOWER);
+            Check.tape(x, 0, 1);
+            x.inTurns();
+            Check.tell(x, Examples.ONE);
+            Check.tell(x, Examples.THREE);
+            for (int i = 0; i < 3; i++) {
+                Check.matter(x, Examples.PLAIN_SIGHT + "?");
                 e.due("right()", x.right(), 135000);
             }
         });

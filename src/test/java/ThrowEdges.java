@@ -29,10 +29,10 @@ final class ThrowEdges {
     private static LongTable full() {
         LongTable x = Check.with(Examples.PLAIN_SIGHT);
         x.fits();
-        Check.matter(x, Examples.ONE + "way x set a a;");
+        Check.tell(x, Examples.ONE + "way x set a a;");
         x.settle();
         x.weighed();
-        Check.matter(x, Examples.THREE);
+        Check.tell(x, Examples.THREE);
         Check.tape(x, 2, 1, 0);
         x.inTurns();
         x.bar(0, 1);

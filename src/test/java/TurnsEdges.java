@@ -14,6 +14,9 @@ final class TurnsEdges {
     /** With SIGN 2 of x no CASE. */
     private static final String NO_CASE = "truth a 1;truth b 19;voter x sees 3 10 10 0 10 10 0;voter y sees 2 10 10 10 10;";
 
+    /** With SIGN 2 one PART, under a. */
+    private static final String ONE_PART = "truth a 1;truth b 19;voter x sees 3 19 0 1 20 0 0;";
+
     private TurnsEdges() {
     }
 
@@ -72,13 +75,16 @@ final class TurnsEdges {
 
     private static void noOrder(Edges e) {
         e.says(24, "NONE: not as told.");
-        int[][] orders = {{}, {0}, {0, 1}, {0, 1, 1}, {0, 0, 0}, {0, 1, 3}, {3, 1, 2}, {0, 1, 2, 0}, {0, 1, 255}, {32, 1, 2},
+        int[][] orders = {{}, {0}, {0, 1}, {0, 1, 1}, {0, 1, 0}, {2, 1, 2}, {0, 0, 0}, {0, 1, 3}, {3, 1, 2}, {0, 1, 2, 0}, {0, 1, 255}, {32, 1, 2},
             {0, 1, 128}, {0, 1, 2, 3, 4, 5, 6}};
         for (int[] order : orders) {
             e.edge(java.util.Arrays.toString(order) + " of three VOTERS", () -> e.due("inTurns()", inTurns(
                 Check.with(Examples.THREE), order), -1));
         }
-        e.edge("one of seven twice", () -> e.due("inTurns()", inTurns(Check.with(SEVEN), 0, 1, 2, 3, 4, 5, 5), -1));
+        e.edge("one of seven twice", () -> {
+            e.due("inTurns()", inTurns(Check.with(SEVEN), 0, 1, 2, 3, 4, 5, 5), -1);
+            e.due("inTurns()", inTurns(Check.with(SEVEN), 0, 1, 2, 3, 4, 5, 0), -1);
+        });
         e.edge("a full tape", () -> e.due("inTurns()", inTurns(Check.with(Examples.ONE), new int[740]), -1));
         e.edge("without a MATTER", () -> {
             e.due("inTurns() of none", inTurns(new LongTable()), -1);
@@ -126,7 +132,7 @@ final class TurnsEdges {
         });
         e.edge("stay behind another MATTER and a FAULT", () -> {
             LongTable x = spoken(Examples.THREE, 0, 1, 2);
-            Check.matter(x, Examples.ONE);
+            Check.tell(x, Examples.ONE);
             Check.matter(x, "?");
             herds(e, x, 80000, 20000, 127500);
         });
@@ -139,7 +145,7 @@ final class TurnsEdges {
         });
         e.edge("the latest of two", () -> {
             LongTable x = spoken(Examples.THREE, 0, 1, 2);
-            Check.matter(x, BLIND);
+            Check.tell(x, BLIND);
             inTurns(x, 1, 0);
             herds(e, x, 8000, 1200, 6800);
         });
@@ -147,6 +153,7 @@ final class TurnsEdges {
             + " DECIDED.");
         e.edge("a CLIFF at the only turn is at the last one", () -> herds(e, spoken(
             EVEN + "voter x sees 2 10 10 10 10;", 0), 0, 0, 200));
+        e.edge("RIGHT of one PART more", () -> herds(e, spoken(ONE_PART, 0), 0, 0, 380 + 1));
         e.edge("a CLIFF at the last turn", () -> herds(e, spoken(Examples.KNOWER, 0, 1), 0, 0, 8000));
         e.edge("a CLIFF at the turn ahead of the last", () -> herds(e, spoken(
             BETWEEN, 1, 0, 2), 160000, 0, 160000));
@@ -164,6 +171,15 @@ final class TurnsEdges {
         e.edge("ahead of any", () -> {
             herds(e, new LongTable(), -1, -1, -1);
             herds(e, Check.with(Examples.THREE), -1, -1, -1);
+        });
+        e.edge("ahead of any, behind four MATTERS and a FAULT", () -> {
+            LongTable x = Check.with(Examples.THREE);
+            for (String text : new String[] {BLIND, Examples.ONE, BETWEEN, "?"}) {
+                Check.matter(x, text);
+                herds(e, x, -1, -1, -1);
+                e.due("says()", says(x, 0, 0, 0), -1);
+                e.due("cliff()", cliff(x, 0, 0, 0), -1);
+            }
         });
         e.edge("ahead of any that was not NONE", () -> herds(e, spoken(Examples.THREE, 0, 1), -1, -1, -1));
         e.edge("ahead of any, behind bestOrder()", () -> {
@@ -185,13 +201,13 @@ final class TurnsEdges {
             Examples.KNOWER, 1, 0), 0, 0), 10));
         e.edge("another MATTER told behind it", () -> {
             LongTable x = spoken(Examples.KNOWER, 1, 0);
-            Check.matter(x, Examples.THREE);
-            Check.matter(x, Examples.ONE);
+            Check.tell(x, Examples.THREE);
+            Check.tell(x, Examples.ONE);
             e.due("says()", says(x, 1, 2), 1);
         });
         e.edge("another MATTER with as many SIGNS told behind it", () -> {
             LongTable x = spoken(Examples.KNOWER, 1, 0);
-            Check.matter(x, LIAR);
+            Check.tell(x, LIAR);
             e.due("says()", says(x, 1, 2), 1);
             e.due("inTurns()", inTurns(x, 1, 0), 8000);
             e.due("says() of the later one", says(x, 1, 2), 0);
@@ -225,7 +241,7 @@ final class TurnsEdges {
         e.edge("a full tape", () -> e.due("says()", says(spoken(Examples.ONE, 0), new int[740]), -1));
         e.edge("SIGNS of the MATTER told behind it", () -> {
             LongTable x = spoken(Examples.KNOWER, 1, 0);
-            Check.matter(x, Examples.THREE);
+            Check.tell(x, Examples.THREE);
             e.due("says()", says(x, 0, 0, 0), -1);
         });
         e.edge("ahead of any", () -> {
@@ -245,7 +261,7 @@ final class TurnsEdges {
         e.says(27, "CLIFF in that order, of that MATTER likewise, with the tape's bytes as SIGNS");
         e.edge("another MATTER and a FAULT told behind it", () -> {
             LongTable x = spoken(Examples.THREE, 0, 1, 2);
-            Check.matter(x, BETWEEN);
+            Check.tell(x, BETWEEN);
             Check.matter(x, "?");
             e.due("cliff()", cliff(x, 1, 1, 0), 2);
         });
@@ -278,6 +294,13 @@ final class TurnsEdges {
         e.edge("the last one does not FOLLOW", () -> e.due("cliff()", cliff(spoken(
             Examples.THREE, 0, 1, 2), 1, 0, 1), -1));
         e.edge("the last one alone does not FOLLOW", () -> e.due("cliff()", cliff(spoken(BETWEEN, 0, 2, 1), 0, 0, 0), -1));
+        // With SIGN 0 and 1 b, with SIGN 2, which b never has, a.
+        e.edge("one who says otherwise with a SIGN that one TRUTH alone has", () -> {
+            e.due("cliff()", cliff(spoken("truth a 9;truth b 11;voter x sees 3 0 10 10 10 10 0;", 0), 0), -1);
+            e.due("cliff() of the other TRUTH", cliff(spoken(
+                "truth a 11;truth b 9;voter x sees 3 10 10 0 0 10 10;", 0), 0), -1);
+        });
+        e.edge("one who says otherwise with a SIGN of one PART", () -> e.due("cliff()", cliff(spoken(ONE_PART, 0), 0), -1));
         e.edge("one alone who does not", () -> e.due("cliff()", cliff(spoken(Examples.PLAIN_SIGHT, 0), 0), -1));
         int[][] rows = {{}, {0}, {0, 0, 0}, {2, 0}, {0, 3}, {9, 0}, {255, 0}, {0, 128}};
         for (int[] row : rows) {
@@ -310,6 +333,7 @@ final class TurnsEdges {
             Examples.alike(EVEN, 5, "2 20 0 0 20") + liars("qrst")).bestOrder(), 12340));
         e.edge("of five whose third one is to be the last", () -> e.due("bestOrder()", Check.with(
             Examples.alike(EVEN, 5, "2 20 0 0 20") + liars("pqst")).bestOrder(), 1342));
+        bestOfAll(e);
         e.says(28, "NONE: no MATTER, or more than 5 VOTERS.");
         e.edge("no MATTER", () -> e.due("bestOrder()", new LongTable().bestOrder(), -1));
         e.edge("5 VOTERS", () -> e.due("bestOrder()", Check.with(
@@ -317,6 +341,33 @@ final class TurnsEdges {
         e.edge("6 VOTERS", () -> e.due("bestOrder()", Check.with(
             Examples.alike(EVEN, 6, "2 15 5 5 15")).bestOrder(), -1));
         e.edge("7 VOTERS", () -> e.due("bestOrder()", Check.with(SEVEN).bestOrder(), -1));
+    }
+
+    /** Orders that alone lose least; the Oracle, which tries all CASE by CASE, tells the same ones. */
+    private static void bestOfAll(Edges e) {
+        String[][] found = {
+            {"43210", "truth a 6;truth b 14;voter p sees 2 5 15 6 14;voter q sees 2 6 14 11 9;voter r sees 2 18 2 1 19;"
+                + "voter s sees 2 5 15 17 3;voter t sees 2 13 7 17 3;"},
+            {"40321", "truth a 8;truth b 12;voter p sees 2 3 17 18 2;voter q sees 2 13 7 15 5;voter r sees 2 16 4 12 8;"
+                + "voter s sees 2 11 9 8 12;voter t sees 2 18 2 11 9;"},
+            {"31042", "truth a 5;truth b 15;voter p sees 2 12 8 3 17;voter q sees 2 2 18 18 2;voter r sees 2 4 16 15 5;"
+                + "voter s sees 2 13 7 1 19;voter t sees 2 19 1 4 16;"},
+            {"20413", "truth a 11;truth b 9;voter p sees 2 1 19 17 3;voter q sees 2 12 8 4 16;voter r sees 2 15 5 5 15;"
+                + "voter s sees 2 11 9 3 17;voter t sees 2 0 20 17 3;"},
+        };
+        for (String[] f : found) {
+            e.edge("of five, " + f[0], () -> {
+                LongTable x = Check.with(f[1]);
+                e.due("bestOrder()", x.bestOrder(), Integer.parseInt(f[0]));
+                e.due("bestOrder() by the Oracle", new Oracle(f[1]).bestOrder(), Integer.parseInt(f[0]));
+                e.due("bestOrder() again", x.bestOrder(), Integer.parseInt(f[0]));
+            });
+        }
+        e.edge("the same again", () -> {
+            LongTable x = Check.with(Examples.THREE);
+            e.due("bestOrder()", x.bestOrder(), 12);
+            e.due("bestOrder()", x.bestOrder(), 12);
+        });
     }
 
     /** Each of these would have it decided wrongly. */

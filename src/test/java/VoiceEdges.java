@@ -58,6 +58,8 @@ final class VoiceEdges {
             Examples.ONE + "way x set a a;").turns(0, 0), 110));
         e.edge("of three TRUTHS the last one would", () -> e.due("turns(0, 0)", Check.with(
             Examples.PLAIN_SIGHT + "rule need 1 c else a;").turns(0, 0), 80));
+        e.edge("with a SIGN of the third TRUTH", () -> e.due("turns(0, 2)", Check.with(
+            Examples.PLAIN_SIGHT).turns(0, 2), 200));
         e.edge("no vote would, as T and U are the same", () -> e.due("turns(0, 0)", Check.with(
             Examples.ONE + "rule need 1 b else b;").turns(0, 0), 0));
         e.edge("a need that one cannot reach alone", () -> e.due("turns(0, 0)", Check.with(
@@ -87,7 +89,7 @@ final class VoiceEdges {
         e.edge("without a MATTER", () -> e.dueThrow(call, () -> asking.of(new LongTable(), 0, 0)));
         e.edge("a VOTER of the MATTER before", () -> {
             LongTable x = Check.with(Examples.KNOWER);
-            Check.matter(x, Examples.ONE);
+            Check.tell(x, Examples.ONE);
             e.dueThrow(call, () -> asking.of(x, 1, 0));
         });
     }
@@ -176,6 +178,19 @@ final class VoiceEdges {
             "truth a 1;truth b 19;voter x sees 3 10 10 0 10 10 0;way x set b b none;").fit(), 1));
         e.edge("all wrong, but nobody's voice TURNS it", () -> e.due("fit()", Check.with(
             Examples.THREE + "way ann set no no;way bob set no no;way cy set no no;").fit(), 1));
+        e.edge("seven VOTERS", () -> {
+            String seven = Examples.alike("truth a 10;truth b 10;", 7, "2 20 0 0 20");
+            e.due("fit()", Check.with(seven).fit(), 1);
+            e.due("fit() of one who could make it b", Check.with(seven + "rule need 7 b else a;way v set b a;").fit(), 0);
+        });
+        e.edge("of all VOTERS now, not of more who were", () -> {
+            LongTable x = new LongTable();
+            String wrong = Examples.alike("truth a 10;truth b 10;", 7, "2 20 0 0 20") + "weight v 9;way v set b a;";
+            for (int i = 0; i < 6; i++) {
+                Check.tell(x, i % 4 < 2 ? wrong : Examples.ONE);
+                e.due("fit()", x.fit(), i % 4 < 2 ? 0 : 1);
+            }
+        });
         e.says(20, "NONE without a MATTER.");
         e.edge("ahead of any", () -> e.due("fit()", new LongTable().fit(), -1));
         e.edge("behind a FAULT", () -> {
@@ -255,7 +270,7 @@ final class VoiceEdges {
         e.edge("stays behind another MATTER", () -> {
             LongTable x = Check.with(Examples.PLAIN_SIGHT);
             x.settle();
-            Check.matter(x, Examples.ONE);
+            Check.tell(x, Examples.ONE);
             e.due("settled(0, 2)", x.settled(0, 2), 2);
         });
         e.edge("stays behind a FAULT", () -> {
@@ -267,7 +282,7 @@ final class VoiceEdges {
         e.edge("stays behind one of 51 rounds", () -> {
             LongTable x = Check.with(Examples.PLAIN_SIGHT);
             x.settle();
-            Check.matter(x, LONG_WAY + "b;");
+            Check.tell(x, LONG_WAY + "b;");
             e.due("settle()", x.settle(), -1);
             e.due("settled(0, 1)", x.settled(0, 1), 1);
             e.due("settled(0, 2)", x.settled(0, 2), 2);
@@ -276,7 +291,7 @@ final class VoiceEdges {
         e.edge("the latest of two", () -> {
             LongTable x = Check.with(Examples.PLAIN_SIGHT);
             x.settle();
-            Check.matter(x, Examples.ONE);
+            Check.tell(x, Examples.ONE);
             x.settle();
             e.due("settled(0, 0)", x.settled(0, 0), 1);
             e.due("settled(0, 2)", x.settled(0, 2), -1);
@@ -300,8 +315,13 @@ final class VoiceEdges {
             e.due("settled(6, 2)", x.settled(6, 2), -1);
         });
         e.edge("ahead of any", () -> {
-            e.due("settled(0, 0)", new LongTable().settled(0, 0), -1);
-            e.due("settled(0, 0) of a MATTER", Check.with(Examples.ONE).settled(0, 0), -1);
+            LongTable x = Check.with(LONG_WAY + "a;");
+            for (int v = 0; v < 7; v++) {
+                for (int s = 0; s < 3; s++) {
+                    e.due("settled(" + v + ", " + s + ")", new LongTable().settled(v, s), -1);
+                    e.due("settled(" + v + ", " + s + ") of a MATTER", x.settled(v, s), -1);
+                }
+            }
         });
         e.edge("ahead of any that was not NONE", () -> {
             LongTable x = Check.with(LONG_WAY + "b;");
@@ -338,7 +358,7 @@ final class VoiceEdges {
         e.edge("stay behind one that is NONE and another MATTER", () -> {
             LongTable x = Check.with(Examples.ONE);
             x.settle();
-            Check.matter(x, ROUND_AND_ROUND);
+            Check.tell(x, ROUND_AND_ROUND);
             x.settle();
             e.due("settles(0)", x.settles(0), 300);
             e.due("settles(1)", x.settles(1), 100);

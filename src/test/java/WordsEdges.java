@@ -56,6 +56,21 @@ final class WordsEdges {
         });
         e.edge("not by COMMON LOSSES, where w has own ones", () -> partsOf(e,
             "loss b a 50;loss w b a 1;loss v b a 9;", 1, 0, 1, 1, 1));
+        // With SIGN 1 w is sure of a, with SIGN 0 the WORD counts.
+        e.edge("having the own SIGN", () -> e.due("believed(0, 1, 1)", Check.with(
+            "truth a 10;truth b 10;voter v sees 2 20 0 0 20;voter w sees 2 10 10 20 0;loss v a a 9;loss v a b 0;loss v b b 9;"
+            + "loss v b a 0;").believed(0, 1, 1), 0));
+        // Of 2 times 12 and 3 times 8 PARTS w decides a, which is what v would have; with one less each it would be b.
+        e.edge("of like ones by a WORD w decides the least", () -> e.due("believed(0, 1, 1)", Check.with(
+            "truth a 12;truth b 8;voter v sees 2 2 18 3 17;voter w sees 2 10 10 10 10;loss v a b 2;").believed(0, 1, 1), 1));
+        e.edge("no WORD but those of the part", () -> {
+            // w decides b by any WORD; v would have a decided.
+            LongTable x = Check.with("truth a 1;truth b 19;voter v sees 3 10 5 5 10 5 5;voter w sees 2 10 10 10 10;"
+                + "loss v b b 9;");
+            for (int part = 0; part < 5; part++) {
+                e.due("believed(0, 1, " + part + ")", x.believed(0, 1, part), 1);
+            }
+        });
         e.edge("as much lost by another one is no lie", () -> partsOf(e, "loss v b b 1;", 1, 1, 1, 1, 1));
         e.edge("all v's LOSSES 0", () -> e.due("believed(0, 1, 1)", Check.with(
             Examples.KNOWER + "loss x a b 0;loss x b a 0;").believed(0, 1, 1), 1));
@@ -136,6 +151,16 @@ final class WordsEdges {
             e.due("minutes(0, 0)", minutes(Check.with(text), 0, 0, 0, 1), 0);
             e.due("minutes(1, 0)", minutes(Check.with(text), 1, 0, 9, 0), 0);
         });
+        e.edge("the same behind other calls", () -> {
+            LongTable x = Check.with(text);
+            x.right();
+            x.knows(0);
+            e.due("minutes(1, 2)", minutes(x, 1, 2, 0, 0), 2000);
+            x.bestRule();
+            x.turns(1, 0);
+            e.due("minutes(0, 0) of votes that never are", minutes(x, 0, 0, 0, 1), 0);
+            e.due("minutes(1, 0) of votes that never are", minutes(x, 1, 0, 9, 0), 0);
+        });
         e.edge("the tape is empty behind it", () -> {
             LongTable x = Check.with(text);
             minutes(x, 0, 0, 0, 1);
@@ -193,6 +218,11 @@ final class WordsEdges {
         e.edge("what is so with that SIGN is never DECIDED so", () -> e.due("shut(1, 0, 0)", Check.with(text).shut(1, 0, 0), 0));
         e.edge("a TRUTH that is never DECIDED", () -> e.due("shut(2, 0, 2)", Check.with(
             Examples.PLAIN_SIGHT + "way x set a b a;").shut(2, 0, 2), 0));
+        e.edge("what is so is the third TRUTH", () -> {
+            e.due("shut(2, 0, 2)", Check.with(Examples.PLAIN_SIGHT).shut(2, 0, 2), 200);
+            e.due("shut(0, 0, 2)", Check.with(Examples.PLAIN_SIGHT + "way x set a b a;").shut(0, 0, 2), 200);
+            e.due("shut(1, 0, 2)", Check.with(Examples.PLAIN_SIGHT + "way x set a b b;").shut(1, 0, 2), 200);
+        });
         e.edge("all, of seven VOTERS", () -> e.due("shut(0, 6, 0)", Check.with(
             Examples.alike("truth a 19;truth b 1;", 7, "2 20 0 20 0")).shut(0, 6, 0), 25600000000L));
         e.edge("the chair's vote with that SIGN", () -> {
@@ -236,6 +266,16 @@ final class WordsEdges {
             "truth a 4;truth b 8;truth c 8;voter x sees 2 10 10 10 10 10 10;way x set c c;"), 2), 1));
         e.edge("one PART more", () -> e.due("guess()", guess(Check.with(
             "truth a 19;truth b 1;voter x sees 2 1 19 20 0;way x set a none;"), 0), 1));
+        e.edge("one PART alone", () -> e.due("guess()", guess(Check.with(
+            "truth a 1;truth b 19;voter x sees 2 1 19 0 20;way x set a b;"), 0), 0));
+        e.edge("the same behind other calls", () -> {
+            LongTable x = Check.with(Examples.KNOWER + "way y set a none a;");
+            x.right();
+            x.knows(0);
+            e.due("guess()", guess(x, 1, 9), 1);
+            x.bestRule();
+            e.due("guess() of votes that never are", guess(x, 1, 1), -1);
+        });
         e.edge("of two SIGNS with the same vote together", () -> e.due("guess()", guess(Check.with(
             "truth a 10;truth b 10;voter x sees 3 8 4 8 7 6 7;way x set b none b;"), 1), 0));
         e.edge("9 for none", () -> e.due("guess()", guess(Check.with(Examples.ONE + "way x set a none;"), 9), 1));
