@@ -27,16 +27,22 @@ final class Check {
     /** Just NoSuchElementException is due. */
     void dueThrow(String call, Call made) {
         asked++;
+        String other = otherThanThrow(made);
+        if (!other.isEmpty()) {
+            wrong++;
+            System.out.println(call + " " + other);
+        }
+    }
+
+    /** What a call does in place of throwing NoSuchElementException; empty, if it throws it. */
+    static String otherThanThrow(Call made) {
         String got;
         try {
             got = "answered " + made.answer();
         } catch (RuntimeException e) {
             got = "threw " + e.getClass().getName();
         }
-        if (!got.equals("threw java.util.NoSuchElementException")) {
-            wrong++;
-            System.out.println(call + " " + got + ", due is a NoSuchElementException");
-        }
+        return got.equals("threw java.util.NoSuchElementException") ? "" : got + ", due is a NoSuchElementException";
     }
 
     /** Ends the test: exit code 1, if an answer was wrong or none was asked for. */

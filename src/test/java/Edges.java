@@ -67,14 +67,9 @@ final class Edges {
     /** Just NoSuchElementException is due. */
     void dueThrow(String call, Check.Call made) {
         asked++;
-        String got;
-        try {
-            got = "answered " + made.answer();
-        } catch (RuntimeException e) {
-            got = "threw " + e.getClass().getName();
-        }
-        if (!got.equals("threw java.util.NoSuchElementException")) {
-            wrong(name + ": " + call + " " + got + ", due is a NoSuchElementException");
+        String other = Check.otherThanThrow(made);
+        if (!other.isEmpty()) {
+            wrong(name + ": " + call + " " + other);
         }
     }
 
